@@ -5,6 +5,8 @@ public final class AllTests {
 
     public static void main(String[] args) {
         DescriptionTests.run();
+        ChangeTests.run();
+        ArmTests.run();
         System.out.println(Check.right + " answers are as due, " + Check.wrong + " are not");
         if (Check.wrong != 0) {
             System.exit(1);
