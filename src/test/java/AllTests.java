@@ -7,6 +7,9 @@ public final class AllTests {
         DescriptionTests.run();
         ChangeTests.run();
         ArmTests.run();
+        CostTests.run();
+        RunTests.run();
+        ModelTests.run();
         System.out.println(Check.right + " answers are as due, " + Check.wrong + " are not");
         if (Check.wrong != 0) {
             System.exit(1);

@@ -210,7 +210,7 @@ final class DescriptionTests {
     }
 
     private static void promise3TooMany() {
-        String six = START + "rule near".repeat(1) + "; rule near".repeat(5);
+        String six = START + "rule near" + "; rule near".repeat(5);
         fits(six);
         fails(six + "; rule near", 3, six.length() + 2);
         fails(six + "; rule nonsense", 3, six.length() + 2);
