@@ -999,6 +999,8 @@ public final class ArmDuel {
     private static final class Arm {
         /** Lies behind all ranks of requests that a rule serves without turning round. */
         static final int BEHIND = 1000;
+        /** Lies behind all ranks. */
+        static final int LAST = 10000;
 
         int cylinder;
         boolean up;
@@ -1119,7 +1121,7 @@ public final class ArmDuel {
             int kind = settings.kindOf(rule);
             int width = settings.widthOf(rule);
             int index = choose(kind, width);
-            int rank = index == NONE ? Integer.MAX_VALUE : rankOf(kind, width, wanted[index]);
+            int rank = index == NONE ? LAST : rankOf(kind, width, wanted[index]);
             int price = index == NONE ? 0 : settings.priceOf(cylinder, wanted[index]);
             for (int asked = 0; asked < settings.cylinders && asked < paidThen.length; asked++) {
                 // The one more is the youngest of all, so an equal rank does not suffice.
