@@ -245,6 +245,16 @@ final class ArmTests {
             Check.due("6 weight 0 behind round " + round, x.rule(0, 2), want[round]);
             Check.due("6 weight 1 behind round " + round, x.rule(1, 2), want[round]);
         }
+        // Halves and four fifths, so that a weight becomes 1000, which is not less than 1000.
+        ArmDuel z = Check.drive("drive 2 0; rule fcfs; foe ends");
+        for (int round = 0; round < 12; round++) {
+            z.setEta(round % 4 == 2 ? 200 : 500);
+            z.run(1);
+        }
+        Check.due("6 a weight of 1000", z.rule(0, 2), 1000);
+        z.setEta(1);
+        z.run(1);
+        Check.due("6 a weight that was 999", z.rule(0, 2), 999000);
         // near stays at 9, so its weight stays too, and that of fcfs falls to 1.
         ArmDuel y = Check.drive("drive 10 9; rule fcfs; rule near; mix 500 1; foe ends", 0, 9);
         y.run(60);

@@ -103,6 +103,11 @@ final class CostTests {
     private static void promise24Negative() {
         ArmDuel x = nearThenFcfs("; bound 0 0");
         Check.due("24 a negative regret", Check.regret(x), -4, 0, 2, 1, 3);
+        ArmDuel y = Check.drive("drive 20 5; rule fcfs; rule near", 8, 6, 9);
+        y.run(1);
+        y.setMaster(2, 1);
+        y.run(1);
+        Check.due("24 the greatest of the first round", Check.regret(y), 1, NO_VALUE, 0, 2, -1);
     }
 
     private static void promise25() {

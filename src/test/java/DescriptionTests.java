@@ -15,6 +15,7 @@ final class DescriptionTests {
         promise3Errors();
         promise3TooMany();
         promise3BeginsAnew();
+        promise3ForgetsAll();
         promise4();
         promise5();
         promise6();
@@ -176,6 +177,8 @@ final class DescriptionTests {
         fails("Drive 10 0", 1, 0);
         fails("drives 10 0", 1, 0);
         fails("driv 10 0", 1, 0);
+        fails("drivez 10 0", 1, 0);
+        fails("xrive 10 0", 1, 0);
         fails("10 0", 1, 0);
         fails("drive ten 0", 1, 6);
         fails("drive -1 0", 1, 6);
@@ -190,6 +193,8 @@ final class DescriptionTests {
         fails(START + "rule", 1, 16);
         fails(START + "rule far", 1, 17);
         fails(START + "rule 0", 1, 17);
+        fails(START + "rule gear", 1, 17);
+        fails(START + "rule fare", 1, 17);
         fails(START + "rule near 5", 1, 22);
         fails(START + "rule near2", 1, 21);
         fails(START + "rule band", 1, 21);
@@ -250,6 +255,21 @@ final class DescriptionTests {
         Check.due("3 an empty buffer is an error", x.load(), -100);
         Check.due("3 the snapshots stay", x.restoreSnapshot(1), 9);
         Check.due("3 the snapshot's settings", Check.settings(x), settings);
+    }
+
+    private static void promise3ForgetsAll() {
+        ArmDuel x = Check.drive("drive 10 0; rule fcfs; rule near; rival keep 1; bound 0 0", 9, 1, 8);
+        x.run(3);
+        Check.due("3 regret ahead of it", Check.regret(x), 24 - 9, 0, 3, 24 - 9, 0);
+        Check.due("3 rival ahead of it", Check.rival(x), 2, 9, 9, 0, 3, 1);
+        Check.load(x, "drive 10 0; rule fcfs; rule near; rival keep 1; bound 0 0");
+        Check.due("3 regret behind it", Check.regret(x), 0, 0, 0, 0, -1);
+        Check.due("3 rival behind it", Check.rival(x), 2, 0, 0, 0, 0, -1);
+        Check.due("3 rule behind it", Check.rule(x, 0), 0, -1, 1000000, 0, 0, 0);
+        Check.due("3 swaps behind it", x.swapCost(0, 0) + x.swapCost(0, 1), 0);
+        Check.due("3 leads behind it", x.leads(1), 0);
+        Check.due("3 nothing waits behind it", x.arm(1, 2), 0);
+        Check.due("3 nothing was served", x.served(0, 0), -1);
     }
 
     private static void promise4() {

@@ -385,6 +385,7 @@ final class RunTests {
         Check.argument("56 slot 2", () -> x.restoreSnapshot(2));
         Check.argument("56 slot -1", () -> x.restoreSnapshot(-1));
         buffersStay();
+        overAnotherDrive();
     }
 
     private static void buffersStay() {
@@ -399,6 +400,38 @@ final class RunTests {
         x.restoreSnapshot(1);
         Check.due("56 the drive of before", x.setting(0), 30);
         Check.due("56 its rules", x.setting(4), 4);
+    }
+
+    private static int[] windows(ArmDuel x) {
+        int[] all = new int[12];
+        for (int i = 0; i < 4; i++) {
+            all[i] = x.bestPair(i);
+            all[i + 4] = x.dearest(i, 3);
+            all[i + 8] = x.windowRegret(4 * i, 5);
+        }
+        return all;
+    }
+
+    /** Another drive, with fewer rules and other costs, is loaded and run between saving and restoring. */
+    private static void overAnotherDrive() {
+        ArmDuel x = hard();
+        x.run(20);
+        int[] then = all(x);
+        int[] windows = windows(x);
+        x.saveSnapshot(0);
+        Check.load(x, "drive 90 0; cost 50 60; rule near; foe ends");
+        x.run(30);
+        x.restoreSnapshot(0);
+        Check.due("56 all over another drive", all(x), then);
+        Check.due("56 windows over another drive", windows(x), windows);
+        ArmDuel y = Check.drive("drive 20 0; rule fcfs; rule near; rival lead", 10, 8, 12);
+        y.run(1);
+        y.saveSnapshot(0);
+        Check.due("56 the rival took fcfs", y.rival(5), 0);
+        y.run(1);
+        Check.due("56 the rival took near", y.rival(5), 1);
+        y.restoreSnapshot(0);
+        Check.due("56 the rival took fcfs again", y.rival(5), 0);
     }
 
     private static void predictionsChangeNothing() {
