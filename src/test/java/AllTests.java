@@ -9,6 +9,8 @@ public final class AllTests {
         ArmTests.run();
         CostTests.run();
         RunTests.run();
+        TextTests.run();
+        RefusalTests.run();
         ModelTests.run();
         System.out.println(Check.right + " answers are as due, " + Check.wrong + " are not");
         if (Check.wrong != 0) {
