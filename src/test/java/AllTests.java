@@ -10,6 +10,9 @@ public final class AllTests {
         CostTests.run();
         RunTests.run();
         TextTests.run();
+        RoundEdgeTests.run();
+        CostEdgeTests.run();
+        RunEdgeTests.run();
         RefusalTests.run();
         ModelTests.run();
         System.out.println(Check.right + " answers are as due, " + Check.wrong + " are not");
