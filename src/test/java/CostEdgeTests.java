@@ -390,7 +390,8 @@ final class CostEdgeTests {
         Check.due("42 near", x.meanCost(1), 7.0 / 3.0);
         x.run(197);
         Check.due("42 of 200", x.meanCost(0), 7.0 / 200.0);
-        ArmDuel six = Check.drive("drive 12 5; rule fcfs; rule near; rule scan; rule wrap; rule band 1; rule band 0", 9, 6);
+        ArmDuel six = Check.drive("drive 12 5; rule fcfs; rule near; rule scan; rule wrap; rule band 1; rule band 0",
+                9, 6);
         Check.due("43 one of six", six.share(5), 1000000.0f / 6000000.0f);
         six.run(1);
         int sum = 0;
@@ -412,16 +413,16 @@ final class CostEdgeTests {
         int near = 0;
         int itself = 0;
         int cheaper = 0;
-        for (int round = 850; round < 1000; round++) {
+        for (int round = 920; round < 1000; round++) {
             fcfs += x.cost(0, round);
             near += x.cost(1, round);
             itself += x.cost(-1, round);
             cheaper += x.cost(1, round) < x.cost(0, round) ? 1 : 0;
         }
-        Check.due("39 the last 150", x.windowRegret(850, 150), itself - Math.min(fcfs, near));
-        Check.due("40 the last 150", x.windowBest(850, 150), near < fcfs ? 1 : 0);
-        Check.due("39 one round farther", x.windowRegret(851, 150), NO_VALUE);
-        Check.due("34 near in some of them", x.cheaper(1, 0) >= cheaper && cheaper > 100 ? 1 : 0, 1);
+        Check.due("39 the last 80", x.windowRegret(920, 80), itself - Math.min(fcfs, near));
+        Check.due("40 the last 80", x.windowBest(920, 80), near < fcfs ? 1 : 0);
+        Check.due("39 one round farther", x.windowRegret(921, 80), NO_VALUE);
+        Check.due("34 near in some of them", x.cheaper(1, 0) >= cheaper && cheaper > 50 ? 1 : 0, 1);
         Check.due("39 all 1000", x.windowRegret(0, 1000), x.regret(0));
         Check.due("40 all 1000", x.windowBest(0, 1000), x.best());
         Check.due("41 all 1000", x.worstWindow(1000), 0);

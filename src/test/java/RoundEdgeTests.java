@@ -9,6 +9,7 @@ final class RoundEdgeTests {
     static void run() {
         prices();
         nothingWaits();
+        nothingWaitsAnyMore();
         bandsAtTheirWidth();
         endsOfTheDrive();
         directionsStay();
@@ -21,6 +22,7 @@ final class RoundEdgeTests {
         budgets();
         budgetsAndFullRounds();
         drawsAtTheSum();
+        drawsWithoutRequests();
         seeds();
         leads();
         weights();
@@ -99,9 +101,34 @@ final class RoundEdgeTests {
         Check.due("35 of all the lowest leads", x.leads(0), 2);
     }
 
+    /** A round without requests costs nothing also if the one ahead of it did. */
+    private static void nothingWaitsAnyMore() {
+        ArmDuel x = Check.drive("drive 10 4; cost 9 9; rule fcfs; rule near; rule scan; master keep 0; rival keep 1;"
+                + " mix 500 3; foe none", 8, 5);
+        x.run(1);
+        Check.due("30 the rival cost less", x.rival(4), 1);
+        x.run(1);
+        int[] weights = {x.rule(0, 2), x.rule(1, 2), x.rule(2, 2)};
+        int[] fcfs = Check.rule(x, 0);
+        int[] itself = Check.arm(x, -1);
+        x.run(3);
+        for (int rule = 0; rule < 3; rule++) {
+            Check.due("6 the weight stays", x.rule(rule, 2), weights[rule]);
+            Check.due("31 nothing", x.cost(rule, 4), 0);
+        }
+        Check.due("31 nothing", x.cost(-1, 4), 0);
+        Check.due("16 nothing changes", Check.arm(x, -1), itself);
+        Check.due("6 three rounds more", x.rule(0, 3), fcfs[3] + 3);
+        Check.due("6 its own arm costs no more", x.rule(0, 4), fcfs[4]);
+        Check.due("6 nor does the arm itself", x.rule(0, 5), fcfs[5]);
+        Check.due("30 the rival costs no less", x.rival(4), 1);
+        Check.due("22 the latest one stays", x.served(0, 0), 1);
+        Check.due("22 nothing behind it", x.served(2, 0), -1);
+    }
+
     private static void bandsAtTheirWidth() {
-        ArmDuel x = Check.drive("drive 100 50; rule band 0; rule band 1; rule band 7; rule band 49; rule band 99", 0, 42,
-                57, 49, 50);
+        ArmDuel x = Check.drive("drive 100 50; rule band 0; rule band 1; rule band 7; rule band 49; rule band 99",
+                0, 42, 57, 49, 50);
         Check.due("18 WIDTH 0 is its own cylinder", x.wouldServe(-1, 0), 50);
         Check.due("18 WIDTH 1 is the next one too", x.wouldServe(-1, 1), 49);
         Check.due("18 WIDTH 7 is 57, not 42", x.wouldServe(-1, 2), 57);
@@ -386,6 +413,24 @@ final class RoundEdgeTests {
         }
     }
 
+    /** The arm itself and a rival that draw from the beginning draw alike, also when nothing waits. */
+    private static void drawsWithoutRequests() {
+        ArmDuel x = Check.drive("drive 9 4; cost 3 1; rule fcfs; rule near; rule scan; mix 500 5; foe far; master draw;"
+                + " rival draw", 2, 6);
+        x.run(11);
+        x.setFoe(0);
+        x.run(3);
+        Check.due("16 nothing waits", x.arm(-1, 2), 0);
+        int seen = 0;
+        for (int round = 14; round < 60; round++) {
+            x.run(1);
+            int rule = x.taken(round);
+            seen |= 1 << rule;
+            Check.due("30 the rival drew alike in round " + round, x.rival(5), rule);
+        }
+        Check.due("the test drew two rules", seen, 3);
+    }
+
     private static void seeds() {
         int[] seeds = {0, 1, 17, 16384, 32766, 32767};
         for (int first : seeds) {
@@ -422,7 +467,8 @@ final class RoundEdgeTests {
     }
 
     private static void leads() {
-        ArmDuel x = Check.drive("drive 20 5; rule fcfs; rule near; rule scan; rule near; master lead; rival lead", 9, 6);
+        ArmDuel x = Check.drive("drive 20 5; rule fcfs; rule near; rule scan; rule near; master lead; rival lead",
+                9, 6);
         Check.due("21 of all the lowest", x.nextRule(), 0);
         x.run(1);
         Check.due("21 of near, scan and near the lowest", x.nextRule(), 1);
@@ -459,15 +505,16 @@ final class RoundEdgeTests {
 
     /** All weights become 1000 times as great if the greatest is less than 1000, those at 1 as well. */
     private static void weightsRaised() {
-        ArmDuel x = Check.drive("drive 9 4; cost 3 1; rule fcfs; rule near; rule scan; mix 500 5; foe far", 2, 6);
+        ArmDuel x = Check.drive("drive 3 0; cost 99 1; rule fcfs; rule wrap; rule scan; mix 500 5; foe list; ask 2;"
+                + " ask 0; ask 1; ask 0", 0);
         long[] weights = {1000000, 1000000, 1000000};
         int raised = 0;
         int apart = 0;
-        for (int round = 0; round < 100; round++) {
+        for (int round = 0; round < 60; round++) {
             x.run(1);
             long greatest = 0;
             for (int rule = 0; rule < 3; rule++) {
-                weights[rule] -= weights[rule] * 500 * x.cost(rule, round) / (1000 * 11);
+                weights[rule] -= weights[rule] * 500 * x.cost(rule, round) / (1000 * 101);
                 weights[rule] = Math.max(1, weights[rule]);
                 greatest = Math.max(greatest, weights[rule]);
             }

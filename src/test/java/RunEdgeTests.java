@@ -258,9 +258,10 @@ final class RunEdgeTests {
 
     /** The least number of rounds behind which the regret that is foreseen is above the bound. */
     private static int firstBreach(ArmDuel x, int root) {
+        int base = x.setting(11);
+        int made = x.rounds();
         for (int rounds = 1; rounds <= 200; rounds++) {
-            int bound = x.setting(11) + root * (int) Math.floor(Math.sqrt(x.rounds() + rounds));
-            if (x.regretIn(rounds) > bound) {
+            if (x.regretIn(rounds) > base + root * (int) Math.floor(Math.sqrt(made + rounds))) {
                 return rounds;
             }
         }

@@ -246,11 +246,12 @@ final class TextTests {
     private static void theLastOneCounts() {
         ArmDuel x = Check.drive("drive 10 0; cost 5 5; cost 99 99; cost 1 2; rule near; rule scan; master keep 1;"
                 + " master lead; mix 3 3; mix 500 0; mix 4 5; foe hurt; foe none; foe ends; ask 3; ask 3; ask 3;"
-                + " rival keep 1; rival draw; rival lead; budget 999; budget 0; budget 8; bound 9 9; bound 0 0; bound 3 2");
+                + " rival keep 1; rival draw; rival lead; budget 999; budget 0; budget 8; bound 9 9; bound 0 0;"
+                + " bound 3 2");
         Check.due("3 the last one counts", Check.settings(x), 10, 0, 1, 2, 2, 1, -1, 4, 5, 3, 3, 3, 2, 8, 0);
         Check.due("3 the last rival", x.rival(0), 1);
-        ArmDuel y = Check.drive("drive 10 0; rule near; rule scan; master lead; rival lead; master keep 1; rival keep 1;"
-                + " foe ends; foe none");
+        ArmDuel y = Check.drive("drive 10 0; rule near; rule scan; master lead; rival lead; master keep 1;"
+                + " rival keep 1; foe ends; foe none");
         Check.due("3 keep behind lead", y.setting(5), 2);
         Check.due("3 the rule kept behind lead", y.setting(6), 1);
         Check.due("3 no foe behind ends", y.setting(9), 0);
