@@ -27,6 +27,7 @@ final class TextTests {
         oneTooMany();
         theLastOneCounts();
         noRulesAndNoAsks();
+        aNewObject();
         theBufferAtItsEnd();
         bytesOfANumber();
         wholeBuffers();
@@ -275,6 +276,18 @@ final class TextTests {
         Check.due("3 draw without a rule told", draw.setting(5), 0);
         Check.due("3 nothing kept", draw.setting(6), -1);
         Check.due("21 the only rule", draw.nextRule(), 0);
+    }
+
+    /** A new object is as by the text "drive 10 0", and so is one behind a load of it. */
+    private static void aNewObject() {
+        ArmDuel told = Check.drive("drive 10 0");
+        Portrait.same("1 as by the text", Portrait.of(new ArmDuel()), Portrait.of(told));
+        ArmDuel used = Check.drive("drive 30 9; cost 9 9; rule near; rule scan; master draw; rival lead; foe hurt; ask 4;"
+                + " budget 3; bound 0 0; mix 500 9", 3, 29);
+        used.run(50);
+        used.addAsk(3);
+        Check.load(used, "drive 10 0");
+        Portrait.same("3 begun anew by the text", Portrait.of(used), Portrait.of(new ArmDuel()));
     }
 
     private static void theBufferAtItsEnd() {
