@@ -15,6 +15,10 @@ public final class AllTests {
         RunEdgeTests.run();
         RefusalTests.run();
         ModelTests.run();
+        FaceTests.run();
+        LanguageTests.run();
+        RoomTests.run();
+        ReadmeTests.run();
         System.out.println(Check.right + " answers are as due, " + Check.wrong + " are not");
         if (Check.wrong != 0) {
             System.exit(1);

@@ -282,8 +282,8 @@ final class TextTests {
     private static void aNewObject() {
         ArmDuel told = Check.drive("drive 10 0");
         Portrait.same("1 as by the text", Portrait.of(new ArmDuel()), Portrait.of(told));
-        ArmDuel used = Check.drive("drive 30 9; cost 9 9; rule near; rule scan; master draw; rival lead; foe hurt; ask 4;"
-                + " budget 3; bound 0 0; mix 500 9", 3, 29);
+        ArmDuel used = Check.drive("drive 30 9; cost 9 9; rule near; rule scan; master draw; rival lead; foe hurt;"
+                + " ask 4; budget 3; bound 0 0; mix 500 9", 3, 29);
         used.run(50);
         used.addAsk(3);
         Check.load(used, "drive 10 0");
