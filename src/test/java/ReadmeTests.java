@@ -1,13 +1,8 @@
-import java.io.ByteArrayOutputStream;
+import java.io.File;
 import java.io.IOException;
-import java.io.PrintStream;
-import java.net.URL;
-import java.net.URLClassLoader;
 import java.nio.charset.StandardCharsets;
 import java.nio.file.Files;
 import java.nio.file.Path;
-import javax.tools.JavaCompiler;
-import javax.tools.ToolProvider;
 
 /** Compiles the program of README.md and runs it: it has to print what README.md says. */
 final class ReadmeTests {
@@ -23,7 +18,7 @@ final class ReadmeTests {
             Check.due("README.md says what it prints", printed.isEmpty() ? 0 : 1, 1);
             String got = printedBy(program);
             Check.due("the program of README.md prints:\n" + got, got.equals(printed) ? 1 : 0, 1);
-        } catch (IOException | ReflectiveOperationException e) {
+        } catch (IOException | InterruptedException e) {
             Check.due("the program of README.md runs, but " + e, 0, 1);
         }
     }
@@ -39,17 +34,16 @@ final class ReadmeTests {
         return block.toString();
     }
 
-    private static String printedBy(String program) throws IOException, ReflectiveOperationException {
+    private static String printedBy(String program) throws IOException, InterruptedException {
         Path folder = Files.createTempDirectory("readme");
         Path source = folder.resolve("Example.java");
         Path compiled = folder.resolve("Example.class");
+        String classes = System.getProperty("java.class.path");
         try {
             Files.writeString(source, program);
-            JavaCompiler compiler = ToolProvider.getSystemJavaCompiler();
-            int answer = compiler.run(null, null, null, "-classpath", System.getProperty("java.class.path"),
-                    "-d", folder.toString(), source.toString());
-            Check.due("the program of README.md compiles", answer, 0);
-            return answer == 0 ? printedByMain(folder) : "";
+            String complaints = outputOf("javac", "-cp", classes, "-d", folder.toString(), source.toString());
+            Check.due("the program of README.md compiles: " + complaints, complaints.isEmpty() ? 1 : 0, 1);
+            return outputOf("java", "-cp", folder + File.pathSeparator + classes, "Example");
         } finally {
             Files.deleteIfExists(source);
             Files.deleteIfExists(compiled);
@@ -57,15 +51,10 @@ final class ReadmeTests {
         }
     }
 
-    private static String printedByMain(Path folder) throws IOException, ReflectiveOperationException {
-        PrintStream before = System.out;
-        ByteArrayOutputStream bytes = new ByteArrayOutputStream();
-        try (URLClassLoader loader = new URLClassLoader(new URL[] {folder.toUri().toURL()})) {
-            System.setOut(new PrintStream(bytes, true, StandardCharsets.UTF_8));
-            loader.loadClass("Example").getMethod("main", String[].class).invoke(null, (Object) new String[0]);
-        } finally {
-            System.setOut(before);
-        }
-        return bytes.toString(StandardCharsets.UTF_8).replace(System.lineSeparator(), "\n");
+    private static String outputOf(String... command) throws IOException, InterruptedException {
+        Process process = new ProcessBuilder(command).redirectErrorStream(true).start();
+        String output = new String(process.getInputStream().readAllBytes(), StandardCharsets.UTF_8);
+        process.waitFor();
+        return output.replace(System.lineSeparator(), "\n");
     }
 }
