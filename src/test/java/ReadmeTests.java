@@ -41,8 +41,7 @@ final class ReadmeTests {
         String classes = System.getProperty("java.class.path");
         try {
             Files.writeString(source, program);
-            String complaints = outputOf("javac", "-cp", classes, "-d", folder.toString(), source.toString());
-            Check.due("the program of README.md compiles: " + complaints, complaints.isEmpty() ? 1 : 0, 1);
+            outputOf("javac", "-cp", classes, "-d", folder.toString(), source.toString());
             return outputOf("java", "-cp", folder + File.pathSeparator + classes, "Example");
         } finally {
             Files.deleteIfExists(source);
@@ -52,9 +51,9 @@ final class ReadmeTests {
     }
 
     private static String outputOf(String... command) throws IOException, InterruptedException {
-        Process process = new ProcessBuilder(command).redirectErrorStream(true).start();
+        Process process = new ProcessBuilder(command).redirectError(ProcessBuilder.Redirect.INHERIT).start();
         String output = new String(process.getInputStream().readAllBytes(), StandardCharsets.UTF_8);
-        process.waitFor();
+        Check.due(command[0] + " of the program of README.md ends with", process.waitFor(), 0);
         return output.replace(System.lineSeparator(), "\n");
     }
 }
